@@ -1,0 +1,41 @@
+/** Counts what is not as due, and makes objects from texts. */
+final class Check {
+    private final String name;
+    private int looked;
+    private int wrong;
+
+    Check(String name) {
+        this.name = name;
+    }
+
+    static WordsLent told(String people, String words, String meetings) {
+        WordsLent x = new WordsLent();
+        put(x, 0, people);
+        put(x, 1, words);
+        put(x, 2, meetings);
+        return x;
+    }
+
+    static void put(WordsLent x, int text, String bytes) {
+        for (int i = 0; i < bytes.length(); i++) {
+            x.type(text, bytes.charAt(i));
+        }
+    }
+
+    void due(String call, long got, long want) {
+        looked++;
+        if (got != want) {
+            wrong++;
+            if (wrong <= 50) {
+                System.out.println(name + ": " + call + " answered " + got + ", due is " + want);
+            }
+        }
+    }
+
+    void end() {
+        System.out.println(name + ": " + looked + " answers, " + wrong + " not as due");
+        if (wrong != 0 || looked == 0) {
+            System.exit(1);
+        }
+    }
+}

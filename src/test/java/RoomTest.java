@@ -1,0 +1,42 @@
+import java.lang.management.ManagementFactory;
+
+/** All rows are made with the object: 512 of the dearest calls make next to nothing more. */
+final class RoomTest {
+    private static final Check CHECK = new Check("RoomTest");
+
+    public static void main(String[] args) {
+        WordsLent x = full();
+        made(x, 8);
+        long bytes = made(x, 60);
+        CHECK.due("few bytes are made by calls, not " + bytes, bytes < 2000 ? 1 : 0, 1);
+        CHECK.end();
+    }
+
+    private static WordsLent full() {
+        WordsLent x = Check.told("px;ox;mx;bx;px;px;px;px", "012;103;021;343;234;411;302;555;111;679;766;074",
+                "a01;b10;c01;c34;e43;f23;g10;h01;i40;j14;k03;l67");
+        for (int i = 0; i < 8; i++) {
+            x.echo(i, i);
+            x.tally(23 - i, i, x.stands(23 - i, i, 1));
+        }
+        return x;
+    }
+
+    private static long made(WordsLent x, int calls) {
+        com.sun.management.ThreadMXBean bean = (com.sun.management.ThreadMXBean) ManagementFactory.getThreadMXBean();
+        long before = bean.getCurrentThreadAllocatedBytes();
+        long due = x.digest();
+        int other = 0;
+        for (int i = 0; i < calls; i++) {
+            x.sheet(0, 2, 60);
+            x.write(0, 0);
+            x.copy(0, 0, 0, 1, 59);
+            x.read(0);
+            x.undo(2);
+            x.type(2, '7');
+            other += x.digest() == due ? 0 : 1;
+        }
+        CHECK.due("digests that are another", other, 0);
+        return bean.getCurrentThreadAllocatedBytes() - before;
+    }
+}
