@@ -106,6 +106,12 @@ final class CountedTest {
         WordsLent two = Check.told("px;px", "105;109", "a01;b01");
         two.tally(1, 1, 8);
         due("lent, by what another is left for", two.lent(0), 1 << 1);
+        two.tally(1, 0, 0);
+        due("lent, both counts", two.lent(0), 1 << 1);
+        two.wipe(1);
+        due("sort, of words that are no more", two.sort(0), 0);
+        Check.put(two, 1, "101;109");
+        due("sort, of words that are again", two.sort(0), 1);
         due("lent, none", two.lent(2), -2);
         due("lent, below", two.lent(-1), -2);
     }

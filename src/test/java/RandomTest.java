@@ -70,7 +70,8 @@ final class RandomTest {
         int words = LOT.nextInt(10) == 0 ? LOT.nextInt(13) : 1 + LOT.nextInt(12);
         int most = LOT.nextBoolean() ? 9 : 3;
         for (int i = 0; i < words; i++) {
-            b.append(i > 0 ? ";" : "").append(LOT.nextInt(named)).append(LOT.nextInt(named)).append(1 + LOT.nextInt(most));
+            b.append(i > 0 ? ";" : "").append(LOT.nextInt(named)).append(LOT.nextInt(named));
+            b.append(1 + LOT.nextInt(most));
         }
         typeAll(1, b.toString());
         b.setLength(0);

@@ -153,7 +153,8 @@ final class SheetsTest {
         due("count(8)", x.count(8), 4);
         x.sheet(1, 0, 3);
         int[][] wrong = {{-1, 0, 1}, {0, -1, 1}, {0, 0, -1}, {0, 0, 4}, {4, 0, 3}, {0, 1, 3}, {7, 0, 0}, {0, 4, 0},
-            {Integer.MAX_VALUE, 0, 1}, {1, 0, Integer.MAX_VALUE}, {0, 1, Integer.MAX_VALUE}, {0, 0, LEAST}, {LEAST, 0, 1}};
+            {Integer.MAX_VALUE, 0, 1}, {1, 0, Integer.MAX_VALUE}, {0, 1, Integer.MAX_VALUE},
+            {0, 0, LEAST}, {LEAST, 0, 1}};
         for (int[] w : wrong) {
             due("copy, index", x.copy(0, w[0], 1, w[1], w[2]), -12);
         }

@@ -266,5 +266,11 @@ final class TextsTest {
         y.sheet(0, 0, 2);
         due("read", y.read(0), 1);
         due("stands, behind read", y.stands(0, 0, 1), 2);
+        WordsLent z = Check.told("px;px", "102;012", "a01");
+        z.sheet(0, 1, 2);
+        z.lay(0, 1, 1, 1);
+        due("read", z.read(0), 1);
+        due("the first item is a day, the second one a person", z.stands(0, 0, 1), 1);
+        due("the first item is a day, the second one a person", z.stands(0, 1, 1), 2);
     }
 }
