@@ -13,6 +13,8 @@ public final class WordsLent {
     private static final int OPEN = 0, PAID = 1, PRAYER = 2, LOST = 3, VOID = 4;
     private static final int NULL = 1, INDEX = 2, CAST = 3, STORE = 4, SIZE = 5;
     private static final int SHEETS = 4, FORMS = 3, BYTES = 0, SHORTS = 1, MOST_ITEMS = 60;
+    private static final int LEAST_INT = 1 << 31;
+    private static final long LEAST_LONG = 1L << 63;
 
     private static final int[] DIGEST_DAYS = {0, 6, 13, 23};
 
@@ -393,7 +395,7 @@ public final class WordsLent {
 
     public long chance(int c, int word, int what) {
         if (isOutside(c, 17) || isOutside(word, told.words) || isOutside(what, 2)) {
-            return Long.MIN_VALUE - BAD;
+            return LEAST_LONG - BAD;
         }
         learnOdds();
         int bits = 4 * echoes.held;
@@ -460,12 +462,12 @@ public final class WordsLent {
 
     public int get(int s, int form, int i) {
         if (isOutside(s, SHEETS) || isOutside(form, FORMS)) {
-            return Integer.MIN_VALUE;
+            return LEAST_INT;
         }
         int found = whatIsAmiss(sheets[s], form, i);
         if (found != 0) {
             finding(found);
-            return Integer.MIN_VALUE;
+            return LEAST_INT;
         }
         return sheets[s].items[i];
     }

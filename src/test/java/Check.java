@@ -16,6 +16,17 @@ final class Check {
         return x;
     }
 
+    /** As many PEOPLE, WORDS and MEETINGS as there may be: no room is left in any text. */
+    static WordsLent full() {
+        return told("px;ox;mx;bx;px;px;px;pw", "012;103;021;343;234;411;302;555;111;679;766;074",
+                "a01;b10;c01;c34;e43;f23;g10;h01;i40;j14;k03;l67");
+    }
+
+    /** One thing so many times, with ; between them. */
+    static String many(String thing, int n) {
+        return n == 0 ? "" : thing + (";" + thing).repeat(n - 1);
+    }
+
     static void put(WordsLent x, int text, String bytes) {
         for (int i = 0; i < bytes.length(); i++) {
             x.type(text, bytes.charAt(i));

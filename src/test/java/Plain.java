@@ -632,6 +632,14 @@ final class Plain {
         return had;
     }
 
+    int formOf(int s) {
+        return forms[s];
+    }
+
+    int sizeOf(int s) {
+        return sheets[s] == null ? 0 : sheets[s].length;
+    }
+
     private int amiss(int s, int form, int i) {
         if (sheets[s] == null) {
             return 1;

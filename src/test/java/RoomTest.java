@@ -13,8 +13,7 @@ final class RoomTest {
     }
 
     private static WordsLent full() {
-        WordsLent x = Check.told("px;ox;mx;bx;px;px;px;px", "012;103;021;343;234;411;302;555;111;679;766;074",
-                "a01;b10;c01;c34;e43;f23;g10;h01;i40;j14;k03;l67");
+        WordsLent x = Check.full();
         for (int i = 0; i < 8; i++) {
             x.echo(i, i);
             x.tally(23 - i, i, x.stands(23 - i, i, 1));
