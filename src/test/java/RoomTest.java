@@ -1,13 +1,12 @@
 import java.lang.management.ManagementFactory;
 
-/** All rows are made with the object: 512 of the dearest calls make next to nothing more. */
+/** All rows are made with the object: some 350 of the dearest calls make next to nothing more. */
 final class RoomTest {
     private static final Check CHECK = new Check("RoomTest");
 
     public static void main(String[] args) {
-        WordsLent x = full();
-        made(x, 8);
-        long bytes = made(x, 60);
+        made(full(), 8);
+        long bytes = made(full(), 50);
         CHECK.due("few bytes are made by calls, not " + bytes, bytes < 2000 ? 1 : 0, 1);
         CHECK.end();
     }
