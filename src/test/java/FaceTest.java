@@ -1,9 +1,16 @@
+import java.io.IOException;
 import java.lang.reflect.Constructor;
 import java.lang.reflect.Field;
 import java.lang.reflect.Method;
 import java.lang.reflect.Modifier;
+import java.nio.file.Files;
+import java.nio.file.Path;
+import java.util.Arrays;
+import java.util.List;
 import java.util.Set;
 import java.util.TreeSet;
+import java.util.regex.Matcher;
+import java.util.regex.Pattern;
 
 /** The face of the document, and rule 1 of LANGUAGE.md: nothing beside it can be seen from outside. */
 final class FaceTest {
@@ -16,7 +23,16 @@ final class FaceTest {
         "int sheet 3", "int lose 1", "int lay 4", "int get 3", "int copy 5", "int write 2", "int count 1",
         "long digest 0"};
 
-    public static void main(String[] args) {
+    private static final String[] INTERFACE = {
+        "---- people, words, meetings, echoes", "type", "wipe", "undo", "fault", "person", "word", "meeting", "echo",
+        "back", "read",
+        "---- days", "stands", "at", "clear", "bank", "ring", "silent",
+        "---- plans", "meet", "live", "voice", "spare",
+        "---- counted, chance, lives", "tally", "forget", "never", "sort", "lent", "ask", "chance", "lives",
+        "---- sheets", "sheet", "lose", "lay", "get", "copy", "write", "count", "digest"};
+    private static final Pattern TOLD = Pattern.compile("    (?:// (----.*)|public (?:int|long) (\\w+)\\(.*)");
+
+    public static void main(String[] args) throws IOException {
         Class<?> c = WordsLent.class;
         CHECK.due("public and final", c.getModifiers(), Modifier.PUBLIC | Modifier.FINAL);
         Set<String> due = new TreeSet<>(Set.of(FACE));
@@ -40,7 +56,23 @@ final class FaceTest {
         }
         constructors(c);
         constants(c);
+        headingsStandAhead();
         CHECK.end();
+    }
+
+    /** Ahead of the calls type, wipe .. the interface says: ---- people, words, meetings, echoes. */
+    private static void headingsStandAhead() throws IOException {
+        List<String> due = Arrays.asList(INTERFACE);
+        int told = 0;
+        for (String line : Files.readAllLines(Path.of("src/main/java/WordsLent.java"))) {
+            Matcher m = TOLD.matcher(line);
+            if (m.matches() && told < due.size()) {
+                String said = m.group(1) == null ? m.group(2) : m.group(1);
+                CHECK.due(said + " stands where " + due.get(told) + " is due", said.equals(due.get(told)) ? 1 : 0, 1);
+                told++;
+            }
+        }
+        CHECK.due("headings and calls", told, due.size());
     }
 
     private static void noPrivateNamesake(Class<?> c, Set<String> names) {
